@@ -217,7 +217,7 @@ public final class OneBlanket {
       return VOID;
     }
     playTo(minute);
-    return night.left[cover];
+    return night.lie.left[cover];
   }
 
   public int sleeps(int sleeper, int minute, int what) {
@@ -231,9 +231,9 @@ public final class OneBlanket {
     int warm = night.warmOf(sleeper, minute);
     switch (what) {
       case 0:
-        return night.place[sleeper];
+        return night.lie.place[sleeper];
       case 1:
-        return night.covered[sleeper];
+        return night.lie.covered[sleeper];
       case 2:
         return warm;
       default:
@@ -292,7 +292,7 @@ public final class OneBlanket {
     for (int width = LEAST_WIDTH; width <= MOST_WIDTH && found == NOT; width++) {
       bed.width[cover] = width;
       playTo(minute);
-      if (night.isNoneBare()) {
+      if (night.lie.isNoneBare()) {
         found = width;
       }
     }
@@ -417,7 +417,7 @@ public final class OneBlanket {
       night.drawTurns(dice, odds);
       night.play(LAST_MINUTE);
       dice = night.dice;
-      sum += what == 0 ? night.tally.easy[number] : night.left[number];
+      sum += what == 0 ? night.tally.easy[number] : night.lie.left[number];
     }
     return sum / nights;
   }
@@ -435,7 +435,7 @@ public final class OneBlanket {
       night.begin(inForce, bed.place);
       night.only = s;
       night.play(LAST_MINUTE);
-      int off = Math.abs(night.left[cover] - left);
+      int off = Math.abs(night.lie.left[cover] - left);
       if (off < nearest) {
         nearest = off;
         best = s;
@@ -474,7 +474,7 @@ public final class OneBlanket {
     night.begin(law, bed.place);
     for (int i = 0; i < FRAMES; i++) {
       night.play(Math.min(60 * i, LAST_MINUTE));
-      if (night.left[0] != frames.elements[i]) {
+      if (night.lie.left[0] != frames.elements[i]) {
         return false;
       }
     }
@@ -1116,21 +1116,99 @@ public final class OneBlanket {
     }
   }
 
+  /** Where all lie at one time of a night, each with a bit for every cell that it lies over. */
+  private static final class Lie {
+    private final Bed bed;
+    final int[] place = new int[SLEEPERS];
+    final int[] covered = new int[SLEEPERS];
+    /** What is warm about a sleeper beside the room. */
+    final int[] ownWarm = new int[SLEEPERS];
+    final int[] left = new int[COVERS];
+    private final long[] sleeperBits = new long[SLEEPERS];
+    private final long[] coverBits = new long[COVERS];
+
+    Lie(Bed itsBed) {
+      bed = itsBed;
+    }
+
+    void begin(int[] places) {
+      for (int c = 0; c < bed.covers; c++) {
+        left[c] = bed.left[c];
+        moveCover(c, 0);
+      }
+      long covers = allCovers();
+      for (int s = 0; s < bed.sleepers; s++) {
+        place[s] = places[s];
+        moveSleeper(s, 0);
+        coverAnew(s, covers);
+      }
+      feelWarmth();
+    }
+
+    void moveCover(int c, int by) {
+      left[c] += by;
+      coverBits[c] = bed.bitsOf(left[c], bed.width[c]);
+    }
+
+    void moveSleeper(int s, int by) {
+      place[s] = bed.heldWithin(s, place[s] + by);
+      sleeperBits[s] = bed.bitsOf(place[s], bed.breadth[s]);
+    }
+
+    long allCovers() {
+      long bits = 0;
+      for (int c = 0; c < bed.covers; c++) {
+        bits |= coverBits[c];
+      }
+      return bits;
+    }
+
+    /** How many cells fewer than before the covers lie over. */
+    int coverAnew(int s, long covers) {
+      int were = covered[s];
+      covered[s] = Long.bitCount(sleeperBits[s] & covers);
+      return were - covered[s];
+    }
+
+    int underOf(int s, int c) {
+      return Long.bitCount(sleeperBits[s] & coverBits[c]);
+    }
+
+    void feelWarmth() {
+      for (int s = 0; s < bed.sleepers; s++) {
+        int warm = bed.heat[s];
+        for (int c = 0; c < bed.covers; c++) {
+          warm += bed.warmth[c] * underOf(s, c) / bed.breadth[s];
+        }
+        ownWarm[s] = warm;
+      }
+    }
+
+    boolean isBare(int s) {
+      return covered[s] < bed.breadth[s];
+    }
+
+    boolean isNoneBare() {
+      for (int s = 0; s < bed.sleepers; s++) {
+        if (isBare(s)) {
+          return false;
+        }
+      }
+      return true;
+    }
+  }
+
   /** One night, played minute by minute from where all lie. */
   private static final class Night {
     private final Bed bed;
     private final Turns turns;
     private final Room room;
     private final Text[] laws;
+    final Lie lie;
     final Tally tally = new Tally();
-    final int[] place = new int[SLEEPERS];
-    final int[] covered = new int[SLEEPERS];
-    final int[] left = new int[COVERS];
     /** By how many cells a cover has moved in a sleeper's turns, a row of covers for each sleeper. */
     final int[] drew = new int[SLEEPERS * COVERS];
     private final int[] lastWay = new int[SLEEPERS];
-    /** What is warm about a sleeper beside the room. */
-    private final int[] ownWarm = new int[SLEEPERS];
     private final int[] pull = new int[COVERS];
     private final int[] names = new int[Text.NAMES.length()];
     private int law;
@@ -1147,11 +1225,11 @@ public final class OneBlanket {
       turns = itsTurns;
       room = itsRoom;
       laws = itsLaws;
+      lie = new Lie(itsBed);
     }
 
     void begin(int itsLaw, int[] places) {
-      System.arraycopy(places, 0, place, 0, SLEEPERS);
-      System.arraycopy(bed.left, 0, left, 0, COVERS);
+      lie.begin(places);
       Arrays.fill(drew, 0);
       Arrays.fill(lastWay, 0);
       tally.begin();
@@ -1161,10 +1239,6 @@ public final class OneBlanket {
       moreDegrees = 0;
       only = NO_ONE;
       odds = -1;
-      for (int s = 0; s < bed.sleepers; s++) {
-        covered[s] = coveredOf(s);
-      }
-      feelWarmth();
     }
 
     void drawTurns(int seed, int itsOdds) {
@@ -1209,7 +1283,7 @@ public final class OneBlanket {
         }
       }
       if (nextTurn > first) {
-        feelWarmth();
+        lie.feelWarmth();
       }
     }
 
@@ -1222,7 +1296,7 @@ public final class OneBlanket {
           }
         }
       }
-      feelWarmth();
+      lie.feelWarmth();
     }
 
     private int roll(int sides) {
@@ -1236,15 +1310,15 @@ public final class OneBlanket {
         pull[c] = way * pullOf(s, c, cells, minute);
       }
       for (int c = 0; c < bed.covers; c++) {
-        left[c] += pull[c];
+        lie.moveCover(c, pull[c]);
         drew[s * COVERS + c] += pull[c];
       }
-      place[s] = bed.heldWithin(s, place[s] + cells);
+      lie.moveSleeper(s, cells);
       lastWay[s] = way;
+      long covers = lie.allCovers();
       for (int i = 0; i < bed.sleepers; i++) {
-        int were = covered[i];
-        covered[i] = coveredOf(i);
-        if (i != s && 2 * (were - covered[i]) >= bed.breadth[i]) {
+        int lost = lie.coverAnew(i, covers);
+        if (i != s && 2 * lost >= bed.breadth[i]) {
           tally.wake(i, minute, s);
         }
       }
@@ -1252,7 +1326,7 @@ public final class OneBlanket {
 
     /** By how many cells a cover is drawn by one who turns. */
     private int pullOf(int s, int c, int cells, int minute) {
-      int under = underOf(s, c);
+      int under = lie.underOf(s, c);
       if (under == 0) {
         return 0;
       }
@@ -1272,47 +1346,8 @@ public final class OneBlanket {
       return Math.max(0, Math.min(by, laws[law].worth(names)));
     }
 
-    private long cellsOf(int s) {
-      return bed.bitsOf(place[s], bed.breadth[s]);
-    }
-
-    private int underOf(int s, int c) {
-      return Long.bitCount(cellsOf(s) & bed.bitsOf(left[c], bed.width[c]));
-    }
-
-    private int coveredOf(int s) {
-      long bits = 0;
-      for (int c = 0; c < bed.covers; c++) {
-        bits |= bed.bitsOf(left[c], bed.width[c]);
-      }
-      return Long.bitCount(cellsOf(s) & bits);
-    }
-
-    private void feelWarmth() {
-      for (int s = 0; s < bed.sleepers; s++) {
-        int warm = bed.heat[s];
-        for (int c = 0; c < bed.covers; c++) {
-          warm += bed.warmth[c] * underOf(s, c) / bed.breadth[s];
-        }
-        ownWarm[s] = warm;
-      }
-    }
-
     int warmOf(int s, int minute) {
-      return room.degrees[minute] + moreDegrees + ownWarm[s];
-    }
-
-    boolean isBare(int s) {
-      return covered[s] < bed.breadth[s];
-    }
-
-    boolean isNoneBare() {
-      for (int s = 0; s < bed.sleepers; s++) {
-        if (isBare(s)) {
-          return false;
-        }
-      }
-      return true;
+      return room.degrees[minute] + moreDegrees + lie.ownWarm[s];
     }
 
     private void countIn(int s, int minute, int many) {
@@ -1320,7 +1355,7 @@ public final class OneBlanket {
       if (bed.isEasy(s, warm)) {
         tally.easy[s] += many;
       }
-      if (isBare(s)) {
+      if (lie.isBare(s)) {
         tally.bare[s] += many;
       }
       tally.addCold(s, bed.isCold(s, warm), minute, many);

@@ -9,6 +9,7 @@ public final class BedTest {
     asked();
     undone();
     undoneNoMoreThanForty();
+    undoneOfAllSorts();
     counted();
     Due.end();
   }
@@ -50,7 +51,8 @@ public final class BedTest {
     Due.is("pb far", x.sleeper(Integer.MAX_VALUE, 0), -1);
     Due.is("wh below 0", x.sleeper(4, -1), -1);
     Due.is("wh 10000", x.sleeper(4, 10000), -1);
-    for (int s = 0; s < 6; s++) {
+    Due.is("wh 9999", x.sleeper(4, 9999), 0);
+    for (int s = 1; s < 6; s++) {
       Due.is("sleeper " + s, x.sleeper(3604, 9900 + s), s);
     }
     Due.is("BAD ahead of FULL", x.sleeper(3, 0), -1);
@@ -167,6 +169,36 @@ public final class BedTest {
     }
     Due.is("want at last", x.of(0, 2), 45);
     Due.is("no more", x.redo(), -5);
+  }
+
+  private static void undoneOfAllSorts() {
+    OneBlanket x = new OneBlanket();
+    for (int i = 0; i < 3; i++) {
+      x.sleeper(210, 0);
+      x.cover(0, 500, 0);
+    }
+    int[][] values = new int[64][12];
+    for (int i = 0; i <= 63; i++) {
+      for (int k = 0; k < 12; k++) {
+        values[i][k] = x.of(k / 4, k % 4 < 2 ? k % 4 + 2 : k % 4 == 2 ? 11 : 13);
+      }
+      int v = i * i % 10;
+      x.mend(i % 3, i * 7 / 3 % 4, i * 7 / 3 % 4 == 2 ? 5 + v : v);
+    }
+    for (int i = 63; i >= 24; i--) {
+      Due.is("undo " + i, x.undo(), i - 24);
+      for (int k = 0; k < 12; k++) {
+        Due.is("value " + k + " before " + i, x.of(k / 4, k % 4 < 2 ? k % 4 + 2 : k % 4 == 2 ? 11 : 13), values[i][k]);
+      }
+    }
+    Due.is("none", x.undo(), -5);
+    for (int i = 24; i <= 62; i++) {
+      x.redo();
+      for (int k = 0; k < 12; k++) {
+        Due.is("value " + k + " behind " + i, x.of(k / 4, k % 4 < 2 ? k % 4 + 2 : k % 4 == 2 ? 11 : 13),
+            values[i + 1][k]);
+      }
+    }
   }
 
   private static void counted() {

@@ -81,6 +81,28 @@ public final class NightTest {
     Due.is("too short a row", x.tosses(0, 0, 1), 0);
     x.row(0, 1, 0);
     Due.is("an empty row", x.tosses(0, 0, 1), 0);
+    tossesToTheEnd();
+  }
+
+  private static void tossesToTheEnd() {
+    OneBlanket x = new OneBlanket();
+    x.row(5, 1, 60);
+    for (int i = 0; i < 60; i++) {
+      x.put(5, i, i % 3 == 1 ? 5 : 7 + i);
+    }
+    for (int i = 0; i < 20; i++) {
+      x.put(5, 3 * i + 2, i - 20);
+    }
+    Due.is("twenty from place 0", x.tosses(5, 0, 20), 20);
+    Due.is("the first", x.of(0, 22), -20);
+    Due.is("the last", x.of(19, 22), -1);
+    Due.is("one that ends with the row", x.tosses(5, 57, 20), 1);
+    for (int i = 58; i <= 64; i++) {
+      Due.is("from " + i, x.tosses(5, i, 1), 0);
+    }
+    x.row(5, 1, 3);
+    x.put(5, 2, 9);
+    Due.is("a row of one", x.tosses(5, 0, 20), 1);
   }
 
   private static void cleared() {
@@ -174,7 +196,7 @@ public final class NightTest {
     x.cover(6, 550, 0);
     x.cover(14, 907, 0);
     Due.is("covered: 5 6 7, 6 .. 10, 14", x.sleeps(0, 0, 1), 7);
-    Due.is("warm: 10 + 3 + 12 * 3 / 10 + 50 * 5 / 10 + 7 * 1 / 10", x.sleeps(0, 0, 2), 10 + 3 + 3 + 25 + 0);
+    Due.is("warm: 10 + 3 + 12 * 3 / 10 + 50 * 5 / 10 + 7 * 1 / 10", x.sleeps(0, 0, 2), 10 + 3 + 3 + 25);
     Due.is("12 above WANT", x.sleeps(0, 0, 3), 0);
     x.mend(0, 0, 36);
     Due.is("5 above", x.sleeps(0, 0, 3), 1);
@@ -253,7 +275,7 @@ public final class NightTest {
     y.turn(20, 0, -5);
     Due.is("half wakes", y.wakes(1, 0), 20);
     y.turn(10, 1, -10);
-    Due.is("one's own turn does not", y.wakes(1, 0), 30 - 10);
+    Due.is("one's own turn does not", y.wakes(1, 0), 20);
   }
 
   private static void wokenByTheFirst() {

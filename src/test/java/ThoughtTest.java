@@ -32,6 +32,16 @@ public final class ThoughtTest {
       Due.is("broad " + call[0] + " " + call[1], x.broad(call[0], call[1]), -1);
     }
     Due.is("no change to undo", x.count(5), 0);
+    OneBlanket y = new OneBlanket();
+    y.wide(60);
+    y.sleeper(4515, 0);
+    y.cover(-20, 500, 0);
+    Due.is("80 does it", y.broad(0, 0), 80);
+    OneBlanket z = new OneBlanket();
+    z.wide(60);
+    z.sleeper(4515, 0);
+    z.cover(-21, 500, 0);
+    Due.is("80 does not", z.broad(0, 0), -2);
   }
 
   private static void tucked() {
@@ -42,8 +52,8 @@ public final class ThoughtTest {
     x.sleeper(10, 3000);
     x.turn(100, 0, 5);
     x.turn(101, 0, -5);
-    Due.is("it goes along by 0 .. 1, is 6 too cool from 4 on", x.tucked(0, 0), tuckBy(x)[0]);
-    Due.is("easy", x.tucked(0, 1), tuckBy(x)[1]);
+    Due.is("as mending it finds", x.tucked(0, 0), tuckBy(x)[0]);
+    Due.is("and how many", x.tucked(0, 1), tuckBy(x)[1]);
     Due.is("as before", x.of(0, 13), 4);
     for (int[] call : new int[][] {{-1, 0}, {1, 0}, {0, -1}, {0, 2}}) {
       Due.is("tucked " + call[0] + " " + call[1], x.tucked(call[0], call[1]), -1);
