@@ -92,8 +92,11 @@ public final class OneBlanket {
     }
     int[] values = bed.mendable(what);
     int was = values[number];
-    values[number] = v;
-    changes.add(number, what, was, v);
+    // what becomes what it was is no change: there is nothing to undo, and it does not come behind one undone
+    if (v != was) {
+      values[number] = v;
+      changes.add(number, what, was, v);
+    }
     return was;
   }
 
@@ -510,11 +513,7 @@ public final class OneBlanket {
   }
 
   public int act(int body, int act, int x) {
-    bodies.ran = 0;
-    if (!bodies.has(body) || act < 0 || act >= ACTS) {
-      return 0;
-    }
-    return bodies.run(body, act, bodies.kinds[body], x, 0);
+    return bodies.runFirst(body, act, x);
   }
 
   public int trace(int i) {
@@ -846,7 +845,7 @@ public final class OneBlanket {
           return stack[0];
         } else if (code == -NEGATE || code == -'!') {
           int at = Math.max(0, top - 1);
-          stack[at] = code == -NEGATE ? -stack[at] : truth(stack[at] == 0);
+          stack[at] = code == -NEGATE ? -stack[at] : stack[at] == 0 ? 1 : 0;
         } else {
           top = Math.max(1, top - 1);
           stack[top - 1] = worthOfTwo(-code, stack[top - 1], stack[top]);
@@ -858,15 +857,15 @@ public final class OneBlanket {
     private static int worthOfTwo(int sign, int a, int b) {
       switch (sign) {
         case '|':
-          return truth(a != 0 || b != 0);
+          return a != 0 || b != 0 ? 1 : 0;
         case '&':
-          return truth(a != 0 && b != 0);
+          return a != 0 && b != 0 ? 1 : 0;
         case '<':
-          return truth(a < b);
+          return a < b ? 1 : 0;
         case '=':
-          return truth(a == b);
+          return a == b ? 1 : 0;
         case '>':
-          return truth(a > b);
+          return a > b ? 1 : 0;
         case '+':
           return a + b;
         case '-':
@@ -878,10 +877,6 @@ public final class OneBlanket {
         default:
           return b == 0 ? 0 : a % b;
       }
-    }
-
-    private static int truth(boolean holds) {
-      return holds ? 1 : 0;
     }
   }
 
@@ -1431,7 +1426,7 @@ public final class OneBlanket {
     final int[] kinds = new int[MOST];
     final int[] traced = new int[TRACED];
 
-    boolean has(int n) {
+    private boolean has(int n) {
       return n >= 0 && n < count;
     }
 
@@ -1471,8 +1466,17 @@ public final class OneBlanket {
       ran++;
     }
 
+    /** An act as the body's own kind has it; nothing ran if there is no such body or act. */
+    int runFirst(int n, int act, int x) {
+      ran = 0;
+      if (!has(n) || act < 0 || act >= ACTS) {
+        return 0;
+      }
+      return run(n, act, kinds[n], x, 0);
+    }
+
     /** Runs an act of body n by the nearest kind from one on upward. */
-    int run(int n, int act, int from, int x, int depth) {
+    private int run(int n, int act, int from, int x, int depth) {
       int kind = kindThatHas(act, from);
       if (kind < 0 || depth > DEEPEST) {
         return 0;

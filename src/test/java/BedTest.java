@@ -1,5 +1,12 @@
+import java.util.ArrayList;
+import java.util.List;
+
 /** Promises 1 to 6, 26, 27 and 37. */
 public final class BedTest {
+  /** By what of() asks for that which mend() mends: WANT, HEAT, WIDTH, TUCK. */
+  private static final int[] CODES = {2, 3, 11, 13};
+  private static int z = 11;
+
   public static void main(String[] args) {
     newBed();
     wide();
@@ -9,7 +16,10 @@ public final class BedTest {
     asked();
     undone();
     undoneNoMoreThanForty();
-    undoneOfAllSorts();
+    mendedToTheSame();
+    sameBehindUndone();
+    sameWhileFortyAreKept();
+    mendedAsByCopies();
     counted();
     Due.end();
   }
@@ -171,34 +181,109 @@ public final class BedTest {
     Due.is("no more", x.redo(), -5);
   }
 
-  private static void undoneOfAllSorts() {
+  private static void mendedToTheSame() {
     OneBlanket x = new OneBlanket();
-    for (int i = 0; i < 3; i++) {
-      x.sleeper(210, 0);
-      x.cover(0, 500, 0);
+    x.sleeper(210, 4025);
+    x.cover(-2, 3412, 1);
+    int[] are = {40, 25, 34, 1};
+    for (int what = 0; what < 4; what++) {
+      Due.is("to the same " + what, x.mend(0, what, are[what]), are[what]);
+      Due.is("it stays " + what, x.of(0, CODES[what]), are[what]);
+      Due.is("no change " + what, x.count(5), 0);
+      Due.is("nothing to undo " + what, x.undo(), -5);
+      Due.is("nothing to redo " + what, x.redo(), -5);
     }
-    int[][] values = new int[64][12];
-    for (int i = 0; i <= 63; i++) {
-      for (int k = 0; k < 12; k++) {
-        values[i][k] = x.of(k / 4, k % 4 < 2 ? k % 4 + 2 : k % 4 == 2 ? 11 : 13);
+    x.mend(0, 0, 50);
+    Due.is("to what it became", x.mend(0, 0, 50), 50);
+    Due.is("one change", x.count(5), 1);
+    Due.is("back to what it was is a change", x.mend(0, 0, 40), 50);
+    Due.is("two", x.count(5), 2);
+    Due.is("undo the way back", x.undo(), 1);
+    Due.is("50 again", x.of(0, 2), 50);
+    Due.is("undo the way there", x.undo(), 0);
+    Due.is("40 again", x.of(0, 2), 40);
+  }
+
+  private static void sameBehindUndone() {
+    OneBlanket x = new OneBlanket();
+    x.sleeper(210, 4025);
+    x.mend(0, 0, 50);
+    x.mend(0, 1, 30);
+    x.undo();
+    x.undo();
+    x.mend(0, 0, 40);
+    x.mend(0, 1, 25);
+    Due.is("none to undo", x.count(5), 0);
+    Due.is("no other change came behind", x.redo(), 1);
+    Due.is("want", x.of(0, 2), 50);
+    x.mend(0, 0, 50);
+    Due.is("nor then", x.redo(), 0);
+    Due.is("heat", x.of(0, 3), 30);
+    x.undo();
+    x.mend(0, 0, 51);
+    Due.is("but then", x.redo(), -5);
+  }
+
+  private static void sameWhileFortyAreKept() {
+    OneBlanket x = new OneBlanket();
+    x.sleeper(210, 0);
+    for (int i = 1; i <= 40; i++) {
+      x.mend(0, 0, i);
+      x.mend(0, 0, i);
+    }
+    Due.is("forty", x.count(5), 40);
+    x.mend(0, 0, 40);
+    for (int i = 39; i >= 0; i--) {
+      Due.is("undo " + i, x.undo(), i);
+    }
+    Due.is("none pushed the first one out", x.of(0, 2), 0);
+  }
+
+  /** Runs of mend, undo, redo beside a list of copies of all values, the first and one for each change since. */
+  private static void mendedAsByCopies() {
+    for (int run = 0; run < 80; run++) {
+      OneBlanket x = new OneBlanket();
+      List<int[]> copies = new ArrayList<>();
+      int[] first = new int[12];
+      for (int i = 0; i < 3; i++) {
+        x.sleeper(210, 505 + 101 * i);
+        x.cover(0, 700 + 100 * i, 5 + i);
+        System.arraycopy(new int[] {5 + i, 5 + i, 7 + i, 5 + i}, 0, first, 4 * i, 4);
       }
-      int v = i * i % 10;
-      x.mend(i % 3, i * 7 / 3 % 4, i * 7 / 3 % 4 == 2 ? 5 + v : v);
-    }
-    for (int i = 63; i >= 24; i--) {
-      Due.is("undo " + i, x.undo(), i - 24);
-      for (int k = 0; k < 12; k++) {
-        Due.is("value " + k + " before " + i, x.of(k / 4, k % 4 < 2 ? k % 4 + 2 : k % 4 == 2 ? 11 : 13), values[i][k]);
+      copies.add(first);
+      int now = 0;
+      for (int i = 0; i < 160; i++) {
+        String at = run + "." + i;
+        if (upTo(8) > run % 5) {
+          int k = run % 2 == 0 ? upTo(12) : upTo(2);
+          int v = 5 + upTo(4);
+          int[] next = copies.get(now).clone();
+          Due.is(at + " mend", x.mend(k / 4, k % 4, v), next[k]);
+          if (next[k] != v) {
+            next[k] = v;
+            copies.subList(now + 1, copies.size()).clear();
+            copies.add(next);
+            copies.subList(0, Math.max(0, copies.size() - 41)).clear();
+            now = copies.size() - 1;
+          }
+        } else if (upTo(2) == 0) {
+          Due.is(at + " undo", x.undo(), now == 0 ? -5 : now - 1);
+          now = Math.max(0, now - 1);
+        } else {
+          int more = copies.size() - 1 - now;
+          Due.is(at + " redo", x.redo(), more == 0 ? -5 : more - 1);
+          now += more == 0 ? 0 : 1;
+        }
+        Due.is(at + " to undo", x.count(5), now);
+        int k = upTo(12);
+        Due.is(at + " value " + k, x.of(k / 4, CODES[k % 4]), copies.get(now)[k]);
       }
     }
-    Due.is("none", x.undo(), -5);
-    for (int i = 24; i <= 62; i++) {
-      x.redo();
-      for (int k = 0; k < 12; k++) {
-        Due.is("value " + k + " behind " + i, x.of(k / 4, k % 4 < 2 ? k % 4 + 2 : k % 4 == 2 ? 11 : 13),
-            values[i + 1][k]);
-      }
-    }
+  }
+
+  private static int upTo(int n) {
+    z = z * 1664525 + 1013904223;
+    return (z >>> 9) % n;
   }
 
   private static void counted() {

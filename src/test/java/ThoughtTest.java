@@ -66,13 +66,13 @@ public final class ThoughtTest {
     Due.is("all night", y.tucked(0, 1), 480);
   }
 
-  /** TUCKED of cover 0 and sleeper 0 by mending it and undoing that. */
+  /** TUCKED of cover 0 and sleeper 0 by mending it and mending it back. */
   private static int[] tuckBy(OneBlanket x) {
     int[] best = {-1, -1};
     for (int tuck = 0; tuck <= 9; tuck++) {
-      x.mend(0, 3, tuck);
+      int was = x.mend(0, 3, tuck);
       int easy = x.minutes(0, 0);
-      x.undo();
+      x.mend(0, 3, was);
       if (easy > best[1]) {
         best = new int[] {tuck, easy};
       }
