@@ -1,6 +1,8 @@
 /** Beds of many kinds: the program and the slow telling answer the same. */
 public final class AgreesTest {
   private static final int BEDS = 400;
+  /** So that all calls on a bed are fewer than the 512 that one object is promised for. */
+  private static final int LONGEST = 55;
   private static int z = 20261118;
 
   private static int upTo(int n) {
@@ -64,7 +66,7 @@ public final class AgreesTest {
 
   private static String text() {
     StringBuilder made = new StringBuilder();
-    while (made.length() == 0 || made.length() > 120) {
+    while (made.length() == 0 || made.length() > LONGEST) {
       made.setLength(0);
       int lines = within(1, 3);
       for (int i = 0; i < lines; i++) {

@@ -1,8 +1,12 @@
-/** Any call with any arguments in any state: none throws or goes on for ever, none refused changes anything. */
+/**
+ * Any call with any arguments in any state: none throws or goes on for ever; and a second bed on which those that
+ * were refused are left out answers all others alike, so that what was refused has changed nothing.
+ */
 public final class AnyCallTest {
-  private static final int OBJECTS = 300, CALLS = 512;
+  private static final int OBJECTS = 1200, CALLS = 512, METHODS = 36;
   private static final int[] EDGES = {Integer.MIN_VALUE, -2000000001, -101, -41, -20, -2, -1, 0, 1, 2, 3, 5, 6, 7, 8,
       9, 20, 40, 60, 61, 79, 100, 110, 204, 479, 480, 512, 1030, 2050, 20100, Integer.MAX_VALUE};
+  private static final String SIGNS = "tuwksbmh0123456789!-(()|&<=>+*/%;?";
   private static int z = 7;
 
   private static int upTo(int n) {
@@ -16,122 +20,166 @@ public final class AnyCallTest {
   }
 
   public static void main(String[] args) {
+    int refused = 0;
     for (int k = 0; k < OBJECTS; k++) {
+      int[][] calls = new int[CALLS][];
+      long[] answers = new long[CALLS];
       OneBlanket x = new OneBlanket();
       for (int i = 0; i < CALLS; i++) {
-        oneCall(x, k + "." + i);
+        calls[i] = made(upTo(METHODS + 6));
+        answers[i] = call(x, calls[i]);
+      }
+      OneBlanket y = new OneBlanket();
+      for (int i = 0; i < CALLS; i++) {
+        if (isRefused(calls[i][0], answers[i])) {
+          refused++;
+        } else {
+          Due.is("call " + i + " on bed " + k + " of kind " + calls[i][0], call(y, calls[i]), answers[i]);
+        }
       }
     }
+    Due.is("many were refused, many were not", refused > OBJECTS * 100 && refused < OBJECTS * 400 ? 1 : 0, 1);
     Due.end();
   }
 
-  private static void oneCall(OneBlanket x, String at) {
-    int which = upTo(36);
-    boolean mayChange = which < 12;
-    long before = mayChange ? look(x) : 0;
-    long got = mayChange ? changing(x, which) : asking(x, which);
-    boolean refused = got == OneBlanket.VOID || got <= -1 && got >= -14;
-    // force, mend, wide answer what was; -1 may be an answer of force()
-    if (mayChange && refused && which != 3) {
-      Due.is("call " + at + " of kind " + which + " refused by " + got + " changed", look(x), before);
-    }
+  /** force() and act() may answer so where they do something. */
+  private static boolean isRefused(int which, long answer) {
+    boolean may = answer == -1 || answer == -2 || answer == -3 || answer == -5 || answer <= -11 && answer >= -14
+        || answer == OneBlanket.VOID || answer == Long.MIN_VALUE;
+    return which == 3 ? answer == OneBlanket.VOID : which != 33 && may;
   }
 
-  /** All that can be asked cheaply, as one number. */
-  private static long look(OneBlanket x) {
-    long all = 17;
-    for (int what = 0; what < 8; what++) {
-      all = all * 31 + x.count(what);
-    }
-    for (int i = 0; i < 6; i++) {
-      for (int what = 0; what < 23; what++) {
-        all = all * 31 + x.of(i, what);
-      }
-      for (int k = 0; k < 9; k++) {
-        all = all * 31 + x.element(i, k);
-        all = all * 31 + x.taken(i, k);
-      }
-      all = all * 31 + x.trace(i);
-    }
-    return all;
-  }
-
-  private static long changing(OneBlanket x, int which) {
+  /** The number of a method (feed() has more than one) and what it may be called with. */
+  private static int[] made(int which) {
+    int[] call = {which, any(), any(), any(), any(), any()};
+    boolean asIs = upTo(6) == 0;
     switch (which) {
       case 0:
-        return x.sleeper(upTo(2) * any() + 4 + upTo(20), any());
+        call[1] = asIs ? any() : 100 * upTo(40) + 4 + upTo(17);
+        call[2] = asIs ? any() : upTo(10100);
+        break;
       case 1:
-        return x.cover(any(), upTo(90) * 100 + upTo(55), any());
-      case 2:
-        return x.mend(any(), any(), any());
-      case 3:
-        return x.force(any() - 1);
+        call[2] = asIs ? any() : 100 * upTo(90) + upTo(55);
+        break;
       case 4:
-        return x.turn(any(), any(), any());
+        call[1] = asIs ? any() : upTo(481);
+        call[3] = asIs ? any() : upTo(42) - 21;
+        break;
       case 5:
-        return x.tosses(any(), any(), any());
-      case 6:
-        return x.body(any());
-      case 7:
-        return x.keep(any(), any() - 1);
+        call[2] = upTo(3) == 0 ? any() : 0;
+        break;
       case 8:
-        return x.row(any(), any(), any());
-      case 9:
-        return x.put(any(), any(), any() * 3000000019L);
-      case 10:
-        return x.shift(any(), any(), any(), any(), any());
+        call[2] = upTo(2) == 0 ? 1 : any();
+        call[3] = upTo(3) == 0 ? any() : upTo(61);
+        break;
+      case 11:
+        call[1] = asIs ? any() : 19 + upTo(43);
+        break;
+      case 23:
+        call[2] = asIs ? any() : 1000 * upTo(22) + upTo(103);
+        break;
+      case 36:
+      case 37:
+      case 38:
+      case 39:
+      case 40:
+      case 41:
+        call[0] = 16;
+        call[1] = SIGNS.charAt(upTo(SIGNS.length()));
+        break;
       default:
-        return x.wide(any());
+        break;
+    }
+    return call;
+  }
+
+  private static long call(OneBlanket x, int[] call) {
+    int a = call[1];
+    int b = call[2];
+    int c = call[3];
+    switch (call[0]) {
+      case 0:
+        return x.sleeper(a, b);
+      case 1:
+        return x.cover(a, b, c);
+      case 2:
+        return x.mend(a, b, c);
+      case 3:
+        return x.force(a - 1);
+      case 4:
+        return x.turn(a, b, c);
+      case 5:
+        return x.tosses(a, b, c);
+      case 6:
+        return x.body(a);
+      case 7:
+        return x.keep(a, b - 1);
+      case 8:
+        return x.row(a, b, c);
+      case 9:
+        return x.put(a, b, c * 3000000019L);
+      case 10:
+        return x.shift(a, b, c, call[4], call[5]);
+      case 11:
+        return x.wide(a);
+      case 12:
+        return x.of(a, b);
+      case 13:
+        return x.law();
+      case 14:
+        return x.room();
+      case 15:
+        return b % 4 == 0 ? x.clear() : x.count(2);
+      case 16:
+        return x.feed(a);
+      case 17:
+        return x.lies(a, b);
+      case 18:
+        return x.sleeps(a, b, c);
+      case 19:
+        return x.minutes(a, b);
+      default:
+        return ask(x, call);
     }
   }
 
-  private static long asking(OneBlanket x, int which) {
-    switch (which) {
-      case 12:
-        return x.of(any(), any());
-      case 13:
-      case 14:
-      case 15:
-      case 16:
-        return x.feed("tuwksbmh0123456789!-(()|&<=>+*/%;?".charAt(upTo(34)));
-      case 17:
-        return upTo(3) == 0 ? x.law() : x.feed(any());
-      case 18:
-        return upTo(3) == 0 ? x.room() : x.feed(any());
-      case 19:
-        return upTo(5) == 0 ? x.clear() : 0;
+  private static long ask(OneBlanket x, int[] call) {
+    int a = call[1];
+    int b = call[2];
+    int c = call[3];
+    switch (call[0]) {
       case 20:
-        return x.lies(any(), any());
+        return x.wakes(a, b);
       case 21:
-        return x.sleeps(any(), any(), any());
+        return x.took(a);
       case 22:
-        return x.minutes(any(), any());
+        return x.broad(a, b);
       case 23:
-        return x.wakes(any(), any());
+        return x.drawn(a, b, c, call[4] & 1);
       case 24:
-        return x.took(any());
+        return x.tucked(a, b);
       case 25:
-        return x.broad(any(), any());
+        return x.window(a);
       case 26:
-        return x.tucked(any(), any());
+        return x.across(a);
       case 27:
-        return x.window(any());
+        return x.morning(a, b, c);
       case 28:
-        return upTo(8) == 0 ? x.across(any()) : 0;
+        return x.film(a);
       case 29:
-        return x.drawn(any(), upTo(2) * any() + 1000 * upTo(22) + upTo(103), any(), any());
+        return x.undo();
       case 30:
-        return x.morning(any(), any(), any());
+        return x.redo();
       case 31:
-        return x.film(any());
+        return x.trace(a);
       case 32:
-        return upTo(2) == 0 ? x.undo() : x.redo();
+        return x.element(a, b);
       case 33:
-        return x.act(any(), any(), any());
+        return x.act(a, b, c);
       case 34:
-        return x.trace(any());
+        return x.taken(a, b);
       default:
-        return x.element(any(), any()) + x.taken(any(), any()) + x.count(any());
+        return x.count(a);
     }
   }
 }
