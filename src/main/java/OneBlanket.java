@@ -433,13 +433,13 @@ public final class OneBlanket {
       return STATE;
     }
     int best = 0;
-    int nearest = Integer.MAX_VALUE;
+    int nearest = 0;
     for (int s = 0; s < bed.sleepers; s++) {
       night.begin(inForce, bed.place);
       night.only = s;
       night.play(LAST_MINUTE);
       int off = Math.abs(night.lie.left[cover] - left);
-      if (off < nearest) {
+      if (s == 0 || off < nearest) {
         nearest = off;
         best = s;
       }
@@ -726,6 +726,11 @@ public final class OneBlanket {
 
     boolean isCold(int s, int warm) {
       return warm < want[s] - 15;
+    }
+
+    /** What a sleeper gets of a whole with so many of the own cells under a cover (cut). */
+    int partOf(int s, int whole, int under) {
+      return breadth[s] == 0 ? 0 : whole * under / breadth[s];
     }
 
     int heldWithin(int s, int itsPlace) {
@@ -1173,7 +1178,7 @@ public final class OneBlanket {
       for (int s = 0; s < bed.sleepers; s++) {
         int warm = bed.heat[s];
         for (int c = 0; c < bed.covers; c++) {
-          warm += bed.warmth[c] * underOf(s, c) / bed.breadth[s];
+          warm += bed.partOf(s, bed.warmth[c], underOf(s, c));
         }
         ownWarm[s] = warm;
       }
@@ -1284,8 +1289,8 @@ public final class OneBlanket {
 
     private void doDrawn(int minute) {
       for (int s = 0; s < bed.sleepers; s++) {
-        if (roll(100) < odds) {
-          int cells = roll(21) - 10;
+        if (roll() % 100 < odds) {
+          int cells = roll() % 21 - 10;
           if (cells != 0) {
             turnOver(s, cells, minute);
           }
@@ -1294,9 +1299,9 @@ public final class OneBlanket {
       lie.feelWarmth();
     }
 
-    private int roll(int sides) {
+    private int roll() {
       dice = dice * 1103515245 + 12345;
-      return (dice >>> 8) % sides;
+      return dice >>> 8;
     }
 
     private void turnOver(int s, int cells, int minute) {
@@ -1328,7 +1333,7 @@ public final class OneBlanket {
       int by = Math.abs(cells);
       int back = lastWay[s] * cells < 0 ? 1 : 0;
       if (law < 0 || law >= LAWS) {
-        return back == 1 ? 0 : Math.max(0, by * under / bed.breadth[s] - bed.tuck[c]);
+        return back == 1 ? 0 : Math.max(0, bed.partOf(s, by, under) - bed.tuck[c]);
       }
       names[0] = by;
       names[1] = under;

@@ -1,8 +1,17 @@
+import java.lang.reflect.Array;
+import java.lang.reflect.Field;
+import java.lang.reflect.Modifier;
+import java.util.ArrayList;
+import java.util.Collections;
+import java.util.IdentityHashMap;
+import java.util.List;
+import java.util.Set;
+
 /** "An object is used for at most 512 calls": the 512th is answered as the first, whatever came ahead. */
 public final class LifeTest {
   private static final int LIFE = 512;
 
-  public static void main(String[] args) {
+  public static void main(String[] args) throws IllegalAccessException {
     for (int which = 0; which < 10; which++) {
       dearest(which);
     }
@@ -11,6 +20,7 @@ public final class LifeTest {
     turnAndClear();
     rowAfterRow();
     actOnAndOn();
+    roomTaken();
     Due.end();
   }
 
@@ -112,5 +122,49 @@ public final class LifeTest {
       Due.is("act " + i, x.act(0, 3, i), ((2 * (i + 3) - (1 - 5)) ^ 5) + 1);
     }
     Due.is("ran", x.count(7), 10);
+  }
+
+  /** "All memory is the class's own": what an object holds is made with it, and calls make nothing more. */
+  private static void roomTaken() throws IllegalAccessException {
+    OneBlanket x = fullBed();
+    Due.is("fields and elements, some 3400", partsOf(x) < 4000 ? 1 : 0, 1);
+    Due.is("of a full bed as of a new one", partsOf(x), partsOf(new OneBlanket()));
+    for (int i = 71; i < LIFE; i++) {
+      call(x, i % 10);
+    }
+    Due.is("behind the 512th call", partsOf(x), partsOf(new OneBlanket()));
+  }
+
+  /** Fields and elements of an object and of all that it leads to. */
+  private static int partsOf(Object whole) throws IllegalAccessException {
+    Set<Object> seen = Collections.newSetFromMap(new IdentityHashMap<>());
+    List<Object> open = new ArrayList<>();
+    open.add(whole);
+    int parts = 0;
+    while (!open.isEmpty()) {
+      Object one = open.remove(open.size() - 1);
+      if (one == null || !seen.add(one)) {
+        continue;
+      }
+      parts += one.getClass().isArray() ? Array.getLength(one) : fieldsOf(one, open);
+      if (one instanceof Object[]) {
+        Collections.addAll(open, (Object[]) one);
+      }
+    }
+    return parts;
+  }
+
+  private static int fieldsOf(Object one, List<Object> open) throws IllegalAccessException {
+    int fields = 0;
+    for (Field field : one.getClass().getDeclaredFields()) {
+      if (!Modifier.isStatic(field.getModifiers())) {
+        fields++;
+        field.setAccessible(true);
+        if (!field.getType().isPrimitive()) {
+          open.add(field.get(one));
+        }
+      }
+    }
+    return fields;
   }
 }
